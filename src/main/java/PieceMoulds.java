@@ -8,7 +8,7 @@ public final class PieceMoulds {
     private static final int REFUSED_ABSENT = -2;
     private static final int REFUSED_STATE = -3;
     private static final int REFUSED_ROOM = -5;
-    private static final int REFUSED_TEXT = -6;
+    private static final int REFUSED_TEXT_OR_NONE = -6;
 
     private static final int LEAST_SIDE = 2;
     private static final int MOST_SIDE = 12;
@@ -127,7 +127,8 @@ public final class PieceMoulds {
             case 0:
                 return grid.sortAt(x, y);
             case 1:
-                return poured().fateAt(x, y);
+                casting.refresh();
+                return casting.fateAt(x, y);
             default:
                 return NONE;
         }
@@ -137,36 +138,36 @@ public final class PieceMoulds {
         if (!grid.has(x, y)) {
             return answered(REFUSED_ABSENT);
         }
-        if (!poured().canMend(x, y)) {
+        casting.refresh();
+        if (!casting.canMend(x, y)) {
             return answered(REFUSED_STATE);
         }
         return answered(casting.mend(x, y));
     }
 
     public int wall(int x, int y) {
+        casting.refresh();
         if (x == NONE && y == NONE) {
-            return poured().leastWall();
+            return casting.leastWall();
         }
-        if (!grid.has(x, y)) {
-            return NONE;
-        }
-        return poured().wallAt(x, y);
+        return grid.has(x, y) ? casting.wallAt(x, y) : NONE;
     }
 
     public int many(int what) {
+        casting.refresh();
         switch (what) {
             case 0:
-                return poured().howMany(CAST) + casting.howMany(REPAIRED);
+                return casting.howMany(CAST) + casting.howMany(REPAIRED);
             case 1:
-                return poured().howMany(DRY);
+                return casting.howMany(DRY);
             case 2:
-                return poured().howMany(AIR);
+                return casting.howMany(AIR);
             case 3:
                 return grid.howMany(CORE, CORE);
             case 4:
                 return grid.howMany(SPACER, SPACER);
             case 5:
-                return poured().howMany(REPAIRED);
+                return casting.howMany(REPAIRED);
             case 6:
                 return grid.howMany(CLAY, CLAY + MOST_PIECES - 1);
             default:
@@ -175,18 +176,15 @@ public final class PieceMoulds {
     }
 
     public int off(int i, int what) {
-        Stripping order = stripped();
+        stripping.refresh();
         if (i == NONE) {
-            return howManyPieces(order, what);
-        }
-        if (i < 0 || i >= order.goneCount()) {
-            return NONE;
+            return howManyPieces(what);
         }
         switch (what) {
             case 0:
-                return order.pieceAt(i);
+                return stripping.pieceAt(i);
             case 1:
-                return order.wayAt(i);
+                return stripping.wayAt(i);
             default:
                 return NONE;
         }
@@ -209,7 +207,7 @@ public final class PieceMoulds {
             return answered(REFUSED_NUMBER);
         }
         if (!mixer.find(n, a, b, c)) {
-            return answered(REFUSED_TEXT);
+            return answered(REFUSED_TEXT_OR_NONE);
         }
         for (int i = 0; i < MOST_LOTS; i++) {
             batch.put(i, mixer.unitsOf(i));
@@ -229,11 +227,11 @@ public final class PieceMoulds {
 
     public int pour() {
         if (!batch.isThere()) {
-            return answered(REFUSED_TEXT);
+            return answered(REFUSED_TEXT_OR_NONE);
         }
         int units = batch.takeFromLots();
         batch.clear();
-        return answered(units == NONE ? REFUSED_TEXT : units);
+        return answered(units == NONE ? REFUSED_TEXT_OR_NONE : units);
     }
 
     public int left(int lot) {
@@ -264,7 +262,7 @@ public final class PieceMoulds {
         faultPlace = reader.read(draft);
         tape.cut(0);
         if (faultPlace != NONE) {
-            return answered(REFUSED_TEXT);
+            return answered(REFUSED_TEXT_OR_NONE);
         }
         RuleBook old = kept;
         kept = draft;
@@ -280,10 +278,10 @@ public final class PieceMoulds {
         if (i < 0) {
             return NONE;
         }
-        poured();
-        stripped();
+        casting.refresh();
+        stripping.refresh();
         for (int k = i; k < kept.length(); k++) {
-            if (judge.finds(kept.kindAt(k), kept.firstAt(k), kept.secondAt(k))) {
+            if (judge.isBroken(kept.kindAt(k), kept.firstAt(k), kept.secondAt(k))) {
                 return k;
             }
         }
@@ -365,24 +363,14 @@ public final class PieceMoulds {
         return answer;
     }
 
-    private Casting poured() {
-        casting.refresh();
-        return casting;
-    }
-
-    private Stripping stripped() {
-        stripping.refresh();
-        return stripping;
-    }
-
-    private static int howManyPieces(Stripping order, int what) {
+    private int howManyPieces(int what) {
         switch (what) {
             case 0:
-                return order.goneCount();
+                return stripping.goneCount();
             case 1:
-                return order.stuckCount();
+                return stripping.stuckCount();
             case 2:
-                return order.pieceCount();
+                return stripping.pieceCount();
             default:
                 return NONE;
         }
@@ -429,7 +417,10 @@ public final class PieceMoulds {
         }
 
         boolean isHollow(int x, int y) {
-            int sort = sortAt(x, y);
+            if (!has(x, y)) {
+                return false;
+            }
+            int sort = sorts[y * MOST_SIDE + x];
             return sort == OPEN || sort == GATE || sort == VENT;
         }
 
@@ -626,7 +617,9 @@ public final class PieceMoulds {
         }
 
         private void startFlood() {
-            Arrays.fill(reached, false);
+            for (int i = 0; i < MOST_CELLS; i++) {
+                reached[i] = false;
+            }
             queued = 0;
             spread = 0;
         }
@@ -929,12 +922,9 @@ public final class PieceMoulds {
             ceilings[OTHER_THAN_TIN] = n * (WHOLE - tinFrom);
             ceilings[LEAD] = n * leadTo;
             last = lastOfLots();
-            Arrays.fill(row, 0);
             weigh();
             foresee(n);
-            if (n <= behind[0]) {
-                search(0, n);
-            }
+            search(0, n);
             return isFound;
         }
 
@@ -1311,7 +1301,7 @@ public final class PieceMoulds {
         }
 
         /** The casting and the stripping have been refreshed by the caller. */
-        boolean finds(int kind, int first, int second) {
+        boolean isBroken(int kind, int first, int second) {
             switch (kind) {
                 case TIN_RULE:
                     return isOutside(batch.tin(), first, second);

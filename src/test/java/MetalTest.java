@@ -64,6 +64,13 @@ public final class MetalTest {
         few.lot(0, 0, 1, 4);
         due.is("as many as there are", few.mix(7, 0, 0, 0), 7);
         due.is("more than there are", few.mix(8, 0, 0, 0), -6);
+        PieceMoulds alike = new PieceMoulds();
+        alike.lot(100, 50, 1, 3);
+        alike.lot(100, 50, 2, 3);
+        due.is("alike lots, tin too low", alike.mix(2, 101, 200, 50), -6);
+        due.is("alike lots, tin too high", alike.mix(2, 0, 99, 50), -6);
+        due.is("alike lots, too much lead", alike.mix(2, 0, 200, 49), -6);
+        due.is("alike lots, just so", alike.mix(4, 100, 100, 50), 5);
     }
 
     private static void mixLeast() {
