@@ -11,6 +11,14 @@ final class Due {
         }
     }
 
+    void same(String what, String got, String want) {
+        asked++;
+        if (!got.equals(want)) {
+            wrong++;
+            System.out.println(what + " is " + got + ", due is " + want);
+        }
+    }
+
     void fails(String what) {
         asked++;
         wrong++;
