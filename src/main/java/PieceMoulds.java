@@ -550,7 +550,10 @@ public final class PieceMoulds {
         }
 
         private boolean isMetal(int x, int y) {
-            int fate = fateAt(x, y);
+            if (!grid.has(x, y)) {
+                return false;
+            }
+            int fate = fates[y * MOST_SIDE + x];
             return fate == CAST || fate == REPAIRED;
         }
 

@@ -31,6 +31,13 @@ public final class FaceTest {
         if (!got.equals(want)) {
             due.fails("methods are " + got + ", due are " + want);
         }
+        for (Class<?> inside : PieceMoulds.class.getDeclaredClasses()) {
+            for (Method m : inside.getDeclaredMethods()) {
+                hidden.add(m.getName());
+            }
+            due.is("fields of " + inside.getSimpleName(), hasFewFields(inside) ? 1 : 0, 1);
+        }
+        due.is("fields", hasFewFields(PieceMoulds.class) ? 1 : 0, 1);
         for (String call : FACE) {
             if (hidden.contains(call.substring(0, call.indexOf(' ')))) {
                 due.fails("a private method bears the name of " + call);
@@ -46,5 +53,13 @@ public final class FaceTest {
         due.is("class", PieceMoulds.class.getModifiers(), Modifier.PUBLIC | Modifier.FINAL);
         due.is("NONE", PieceMoulds.NONE, -1);
         due.end();
+    }
+
+    private static boolean hasFewFields(Class<?> one) {
+        int many = 0;
+        for (Field f : one.getDeclaredFields()) {
+            many += Modifier.isStatic(f.getModifiers()) ? 0 : 1;
+        }
+        return many <= 20;
     }
 }

@@ -28,7 +28,24 @@ public final class LanguageTest {
         }
         due.is("classes are at most twelve", many <= 12 ? 1 : 0, 1);
         methodsAreShort(due, code);
+        objectsAreMadeOnce(due, code);
         due.end();
+    }
+
+    /** All calls of a run share one room, so no call may make an object: fields and the constructor alone do. */
+    private static void objectsAreMadeOnce(Due due, String code) {
+        boolean constructing = false;
+        int made = 0;
+        for (String line : code.split("\n")) {
+            constructing = line.startsWith("    public PieceMoulds()") || constructing && !line.equals("    }");
+            if (line.matches(".*(\\bnew\\b|\\bcopyOf|\\bclone\\b|\\bStringBuilder\\b|\\bList\\b|\" [+]|[+] \").*")) {
+                made++;
+                boolean field = line.matches(" {8}private final int\\[\\].* = new .*;")
+                        || line.matches(" {8}private final boolean\\[\\] .* = new .*;");
+                due.is("made once:" + line, constructing || field ? 1 : 0, 1);
+            }
+        }
+        due.is("rows are made", made > 0 ? 1 : 0, 1);
     }
 
     private static void methodsAreShort(Due due, String code) {

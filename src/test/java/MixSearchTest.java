@@ -24,7 +24,29 @@ public final class MixSearchTest {
                 mix(due, random, x, model, lots < 4 ? 40 : lots < 6 ? 12 : 9);
             }
         }
+        fullMixes(due);
         due.end();
+    }
+
+    /** All six lots and up to all 40 units; the model tries each of a million rows, so these are few. */
+    private static void fullMixes(Due due) {
+        for (int run = 0; run < 40; run++) {
+            Random random = new Random(run);
+            PieceMoulds x = new PieceMoulds();
+            Model model = new Model();
+            for (int i = 0; i < 6; i++) {
+                int tin = random.nextInt(400), lead = random.nextInt(400), price = random.nextInt(1001);
+                int units = 20 + random.nextInt(21);
+                due.is("lot", x.lot(tin, lead, price, units), model.lot(tin, lead, price, units));
+            }
+            int a = random.nextInt(300), b = a + random.nextInt(100), c = 100 + random.nextInt(300);
+            int n = 40 - run % 4;
+            String name = "mix(" + n + ", " + a + ", " + b + ", " + c + ") of six lots";
+            due.is(name, x.mix(n, a, b, c), model.mix(n, a, b, c));
+            for (int i = -1; i < 6; i++) {
+                due.is(name + ", mixed(" + i + ")", x.mixed(i), model.mixed(i));
+            }
+        }
     }
 
     private static int one(Random random, int[] of) {
